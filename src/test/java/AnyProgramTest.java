@@ -2,8 +2,8 @@ import java.util.Random;
 
 /** Whatever a program does, it ends with an outline or with a fault; nothing else is ever thrown or answered. */
 public final class AnyProgramTest {
-    private static final int[] LIKELY = {1, 3, 4, 5, 6, 7, 8, 10, 11, 12, 12, 12, 18, 19, 20, 21, 21, 22, 23, 24, 25, 26,
-        27, 29, 30, 31};
+    private static final int[] LIKELY = {1, 3, 4, 5, 6, 7, 8, 10, 11, 12, 12, 12, 18, 19, 20, 21, 21, 22, 23, 24,
+        25, 26, 27, 29, 30, 31};
 
     public static void main(String[] args) {
         Random random = new Random(20261115);

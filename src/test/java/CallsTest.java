@@ -217,8 +217,9 @@ public final class CallsTest {
             for (int one = 2; one >= 0; one--) {
                 String[] strings = new String[one == kind ? 1240 : 1];
                 Arrays.fill(strings, "");
-                strings[0] = one != 0 ? "return"
-                        : (kind == 1 ? "-1131" : "-107") + " callgsubr " + (kind == 2 ? "-1131" : "-107") + " callsubr endchar";
+                String global = (kind == 1 ? -1131 : -107) + " callgsubr ";
+                String local = (kind == 2 ? -1131 : -107) + " callsubr ";
+                strings[0] = one == 0 ? global + local + "endchar" : "return";
                 Checks.row(x, Checks.shelf(1, strings));
                 Checks.due("take", x.take(one), strings.length);
             }

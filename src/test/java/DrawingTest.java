@@ -23,6 +23,7 @@ public final class DrawingTest {
         moveIsBehindStack();
         stackAndMoveLeaveValues();
         mostMarks();
+        mostMarksOfOneKind();
         tooManyMarks();
         fullIsBehindStack();
         Checks.finish();
@@ -99,7 +100,7 @@ public final class DrawingTest {
                 "C10,-32749,10,18,10,18 C10,18,10,-32751,10,20");
     }
 
-    /** "12 37: ...: if the sum of their dx is further from 0 than that of their dy ..., it is dx6 ...; else it is dy6". */
+    /** "12 37: ...: if the sum of their dx is further from 0 than that of their dy ..., it is dx6 ...; else dy6". */
     private static void flexOfEitherWay() {
         drawn("10 1 10 1 10 1 10 1 10 1 7 flex1", "C20,21,30,22,40,23 C50,24,60,25,67,20");
         drawn("1 10 1 10 1 10 1 10 1 10 7 flex1", "C11,30,12,40,13,50 C14,60,15,70,10,77");
@@ -237,6 +238,27 @@ public final class DrawingTest {
         full(LINES + "13*1 hlineto 8*1 rcurveline endchar", 4000);
         full(LINES + "13*1 hlineto 8*1 rlinecurve endchar", 4000);
         full(LINES + "3*1 hlineto 48*1 hvcurveto endchar", 4000);
+    }
+
+    /** The outline has the same room for all: moves alone, lines alone, curves behind one move. */
+    private static void mostMarksOfOneKind() {
+        allOfOneKind("1 vmoveto ", 40, 100, "", 4000, 0);
+        allOfOneKind("1 vmoveto ", 40, 100, "1 hmoveto ", CharOutlines.FULL, 0);
+        allOfOneKind("1 2 rmoveto ", 40, 100, "", 4000, 0);
+        allOfOneKind("1 2 rlineto ", 31, 129, "0 vmoveto ", 4000, 1);
+        allOfOneKind("1 2 rlineto ", 31, 129, "0 vmoveto 0 vmoveto ", CharOutlines.FULL, 1);
+        allOfOneKind("48*1 hvcurveto ", 9, 37, "0 vmoveto 0 hmoveto 0 vmoveto 0 hmoveto ", 4000, 2);
+        allOfOneKind("8*1 hhcurveto ", 54, 37, "0 vmoveto 0 hmoveto 0 vmoveto 0 hmoveto ", 4000, 2);
+    }
+
+    private static void allOfOneKind(String one, int times, int calls, String first, int want, int kind) {
+        CharOutlines x = new CharOutlines();
+        Checks.load(x, 2, one.repeat(times) + "return");
+        Checks.load(x, 0, first + "-107 callsubr ".repeat(calls) + "endchar");
+        Checks.due("many of " + one, x.run(0), want);
+        if (want > 0) {
+            Checks.due("the last of " + one, x.mark(want - 1, 0), kind);
+        }
     }
 
     /** "(more: FULL)"; "with ... FULL they are taken." */

@@ -33,7 +33,8 @@ public final class FaceTest {
         Set<String> methods = new TreeSet<>();
         for (Method method : face.getDeclaredMethods()) {
             if (seen(method)) {
-                methods.add(method.getReturnType() + " " + method.getName() + Arrays.toString(method.getParameterTypes())
+                methods.add(method.getReturnType() + " " + method.getName()
+                        + Arrays.toString(method.getParameterTypes())
                         + Arrays.toString(method.getExceptionTypes()).replace("class java.lang.", ""));
             }
         }

@@ -88,7 +88,7 @@ public final class HintsTest {
         Checks.due("an endchar in a mask", Checks.ends("1 2 hintmask b:14 1 hmoveto endchar", "M1,0").last(0), 6);
     }
 
-    /** "What must be read, and is not there, is the fault SHORT"; "with ... SHORT of a MASK's bytes ... they are taken." */
+    /** "What must be read, and is not there, is the fault SHORT"; "SHORT of a MASK's bytes": values are taken. */
     private static void masksWithoutTheirBytes() {
         for (String mask : MASKS) {
             told(Checks.fails("7 1 2 " + mask, CharOutlines.SHORT, 0), 1, 1, 7 * ONE);

@@ -42,7 +42,8 @@ public final class LastTest {
     }
 
     private static void ofARunThatEnded() {
-        told("a width and hints", Checks.ends("-7 1 2 3 4 hstem 1 2 rmoveto endchar", "M1,2"), 10, 2, 1, -7 * ONE, 0, 1);
+        CharOutlines x = Checks.ends("-7 1 2 3 4 hstem 1 2 rmoveto endchar", "M1,2");
+        told("a width and hints", x, 10, 2, 1, -7 * ONE, 0, 1);
         told("a program of one step", Checks.ends("endchar", ""), 1, 0, 0, 0, 0, 1);
     }
 

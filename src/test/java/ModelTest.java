@@ -48,7 +48,8 @@ public final class ModelTest {
         for (int program = 0; program < codes[0].length; program++) {
             int answer = x.run(program);
             answers.merge(Math.min(answer, 1), 1, Integer::sum);
-            Checks.due(String.join(" / ", shelves[0]), told(x, answer), new Model(codes[1], codes[2]).run(codes[0][program]));
+            String due = new Model(codes[1], codes[2]).run(codes[0][program]);
+            Checks.due(String.join(" / ", shelves[0]), told(x, answer), due);
         }
     }
 

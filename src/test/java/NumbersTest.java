@@ -134,7 +134,7 @@ public final class NumbersTest {
         }
     }
 
-    /** "RUNNING a program goes through its bytes, from the first on, until it ENDS well (endchar) or there is a FAULT." */
+    /** "goes through its bytes, from the first on, until it ENDS well (endchar) or there is a FAULT." */
     private static void goesOnUntilItEnds() {
         Checks.due("what is behind an endchar", Checks.ends("endchar b:0", "").last(0), 1);
         Checks.due("a number that is not there", Checks.ends("5 endchar b:247", "").last(0), 2);

@@ -174,7 +174,7 @@ public final class ReckoningTest {
         Checks.due("a step", Checks.fails("48*1 dup", CharOutlines.STACK, 48).last(0), 49);
     }
 
-    /** "12 3 whether both are not 0 (65,536 or 0), 12 4 one at least, 12 5 whether one is 0, 12 15 whether two are the same". */
+    /** "12 3 whether both are not 0 (65,536 or 0), 12 4 one at least, 12 5 whether one is 0, 12 15 ... the same". */
     private static void truths() {
         String[] pairs = {"0 0", "0 v:1", "v:-1 0", "v:1 v:1", "v:1 v:2", "v:-2147483648 v:2147483647"};
         int[] and = {0, 0, 0, 1, 1, 1};

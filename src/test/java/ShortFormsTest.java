@@ -1,6 +1,6 @@
 import java.util.Random;
 
-/** Terms: "CURVES in all their short forms": each draws what its long form draws, for every number of values it takes. */
+/** Lines and curves in their short forms: each draws what its long form draws, for all numbers of values. */
 public final class ShortFormsTest {
     private static final Random RANDOM = new Random(20261116);
 
@@ -16,8 +16,10 @@ public final class ShortFormsTest {
             same("vlineto", n, true, v -> linesInTurn(v, false));
             same("rlineto", n, n % 2 == 0, v -> lines(v, 0, v.length));
             same("rrcurveto", n, n % 6 == 0, v -> curves(v, 0, v.length));
-            same("rcurveline", n, n >= 8 && n % 6 == 2, v -> curves(v, 0, v.length - 2) + lines(v, v.length - 2, v.length));
-            same("rlinecurve", n, n >= 8 && n % 2 == 0, v -> lines(v, 0, v.length - 6) + curves(v, v.length - 6, v.length));
+            same("rcurveline", n, n >= 8 && n % 6 == 2,
+                    v -> curves(v, 0, v.length - 2) + lines(v, v.length - 2, v.length));
+            same("rlinecurve", n, n >= 8 && n % 2 == 0,
+                    v -> lines(v, 0, v.length - 6) + curves(v, v.length - 6, v.length));
             same("hhcurveto", n, inFours, v -> curvesOneWay(v, true));
             same("vvcurveto", n, inFours, v -> curvesOneWay(v, false));
             same("hvcurveto", n, inFours, v -> curvesInTurn(v, true));
