@@ -19,6 +19,8 @@ public final class DrawingTest {
         wrapping();
         wrappingCurves();
         howManyValues();
+        oneAtLeast();
+        oneOfEachAtLeast();
         beforeAnyMove();
         moveIsBehindStack();
         stackAndMoveLeaveValues();
@@ -173,7 +175,7 @@ public final class DrawingTest {
                 "M0,0 C0,0,0,-32768,0,-32768 C0,-32768,0,0,0,0");
     }
 
-    /** "as many as told here are not there"; "(Of 5, 8, 24 to 27, 30, 31 one pair, six, four at least.)". */
+    /** "STACK is the fault ..., where it takes them all, as many as told here are not there." */
     private static void howManyValues() {
         for (int n = 0; n <= 48; n++) {
             count("rlineto", n, n >= 2 && n % 2 == 0);
@@ -200,6 +202,27 @@ public final class DrawingTest {
         Checks.due(values + ": values left", x.last(4), right ? 0 : n);
         Checks.due(values + " before a move", x.run(1), right ? CharOutlines.MOVE : CharOutlines.STACK);
         Checks.due(values + " before a move: values left", x.last(4), n);
+    }
+
+    /** "6 and 7: dx, dy in turn, ..., one at least." */
+    private static void oneAtLeast() {
+        Checks.fails("0 vmoveto hlineto", CharOutlines.STACK, 0);
+        Checks.fails("0 vmoveto vlineto", CharOutlines.STACK, 0);
+        drawn("0 hlineto", "L10,20");
+        drawn("0 vlineto", "L10,20");
+    }
+
+    /** "(Of 5, 8, 24 to 27, 30, 31 one pair, six, four at least.)" */
+    private static void oneOfEachAtLeast() {
+        for (String operator : new String[] {"rlineto", "rrcurveto", "rcurveline", "rlinecurve", "vvcurveto",
+            "hhcurveto", "vhcurveto", "hvcurveto"}) {
+            Checks.fails("0 vmoveto " + operator, CharOutlines.STACK, 0);
+            Checks.fails("0 vmoveto 1 " + operator, CharOutlines.STACK, 1);
+        }
+        Checks.fails("0 vmoveto 1 2 rcurveline", CharOutlines.STACK, 2);
+        Checks.fails("0 vmoveto 1 2 3 4 5 6 rcurveline", CharOutlines.STACK, 6);
+        Checks.fails("0 vmoveto 1 2 rlinecurve", CharOutlines.STACK, 2);
+        Checks.fails("0 vmoveto 1 2 3 4 5 6 rlinecurve", CharOutlines.STACK, 6);
     }
 
     /** "LINES, CURVES, FLEXES before any MOVE: the fault MOVE". */

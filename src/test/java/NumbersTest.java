@@ -9,6 +9,7 @@ public final class NumbersTest {
         numbersOfFiveBytes();
         missingBytes();
         theEndOfAString();
+        mostValues();
         fullStack();
         missingBeforeFull();
         unknownOperators();
@@ -95,9 +96,16 @@ public final class NumbersTest {
         Checks.due("no step of it", x.last(0), 1);
     }
 
+    /** "THE STACK has at most 48": what is pushed there may be any number of them. */
+    private static void mostValues() {
+        for (int many : new int[] {0, 1, 47, 48}) {
+            Checks.due(many + " values", Checks.fails(many + "*1", CharOutlines.SHORT, many).last(0), many);
+        }
+        Checks.ends("0 vmoveto 48*0 rlineto 48*0 rlineto endchar", "M0,0" + " L0,0".repeat(48));
+    }
+
     /** "Once read it is pushed (STACK, if there are 48)." */
     private static void fullStack() {
-        Checks.due("48 values", Checks.fails("48*1", CharOutlines.SHORT, 48).last(0), 48);
         for (String number : new String[] {"1", "b:247 b:1", "b:251 b:1", "b:28 b:1 b:1", "v:1"}) {
             Checks.fails("47*1 " + number, CharOutlines.SHORT, 48);
             Checks.due("the 49th", Checks.fails("48*1 " + number, CharOutlines.STACK, 48).last(0), 49);
